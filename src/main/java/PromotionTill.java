@@ -263,7 +263,9 @@ public final class PromotionTill {
     /** The tariff can't change under a basket with units, so only scan, unscan and finish undo it. */
     private void findPlan() {
         if (!planned) {
-            planner.fillPlan(tariff, basket, plan);
+            plan.leaveAllAlone(tariff, basket);
+            planner.solve(tariff, basket);
+            planner.fillPlan(basket, plan);
             planned = true;
         }
     }
@@ -305,7 +307,8 @@ public final class PromotionTill {
                 case CHEAPEST_FREE:
                     return leastPrice;
                 case CHEAPER_REDUCED:
-                    return leastPrice - (leastPrice * Math.min(value, 100) + 50) / 100;
+                    int percent = value < 100 ? value : 100;
+                    return leastPrice - (leastPrice * percent + 50) / 100;
                 default:
                     return sumOfPrices - value;
             }
@@ -700,6 +703,8 @@ public final class PromotionTill {
         private final int[] left = new int[DIGITS];
         private final int[] saved = new int[ROOM];
         private final Uses uses = new Uses();
+        /** The state in which all is left. */
+        private int fullState;
 
         int roomFor(Tariff tariff, Basket basket) {
             for (int article = 0; article < ARTICLES; article++) {
@@ -718,13 +723,13 @@ public final class PromotionTill {
         }
 
         int leastTotal(Tariff tariff, Basket basket) {
-            int lastState = fillSaved(tariff, basket);
-            return basket.priceIn(tariff) - savedAt(lastState);
+            solve(tariff, basket);
+            return basket.priceIn(tariff) - savedAt(fullState);
         }
 
-        void fillPlan(Tariff tariff, Basket basket, Plan plan) {
-            plan.leaveAllAlone(tariff, basket);
-            int state = fillSaved(tariff, basket);
+        /** Follows what solve has found for the basket, from the full state on. */
+        void fillPlan(Basket basket, Plan plan) {
+            int state = fullState;
             System.arraycopy(tops, 0, left, 0, DIGITS);
             for (int step = 0; step < basket.size; step++) {
                 int article = leastLeft();
@@ -743,8 +748,7 @@ public final class PromotionTill {
             }
         }
 
-        /** Answers the state in which all is left. */
-        private int fillSaved(Tariff tariff, Basket basket) {
+        void solve(Tariff tariff, Basket basket) {
             int room = roomFor(tariff, basket);
             // Offers alone can be beyond the room, but only an empty basket stands beside them.
             if (basket.size == 0 || room > ROOM) {
@@ -758,7 +762,7 @@ public final class PromotionTill {
                 countUp();
                 saved[state] = bestSaving(state);
             }
-            return room - 1;
+            fullState = room - 1;
         }
 
         private void countUp() {
