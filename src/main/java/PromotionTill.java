@@ -28,6 +28,8 @@ public final class PromotionTill {
     private static final int CHEAPER_REDUCED = 3;
 
     private final Tariff tariff = new Tariff();
+    /** Not in the tariff, as a receipt has no need of them. */
+    private final int[] taxClasses = new int[ARTICLES];
     private final Basket basket = new Basket();
     private final Basket keptUnits = new Basket();
     private final Planner planner = new Planner();
@@ -46,7 +48,7 @@ public final class PromotionTill {
         requireArgument(within(taxClass, 0, PERCENTS.length - 1));
         requireEmptyBasket();
         tariff.cents[id] = cents;
-        tariff.taxClasses[id] = taxClass;
+        taxClasses[id] = taxClass;
     }
 
     public void offer(int id, int kind, int n, int value, int most)
@@ -133,7 +135,7 @@ public final class PromotionTill {
         findPlan();
         int paid = 0;
         for (int i = 0; i < basket.size; i++) {
-            if (tariff.taxClasses[basket.articles[i]] == taxClass) {
+            if (taxClasses[basket.articles[i]] == taxClass) {
                 paid += plan.pays[i];
             }
         }
@@ -326,7 +328,6 @@ public final class PromotionTill {
 
     private static final class Tariff {
         final int[] cents = new int[ARTICLES];
-        final int[] taxClasses = new int[ARTICLES];
         final Offer[] offers = new Offer[OFFERS];
 
         Tariff() {
@@ -348,7 +349,6 @@ public final class PromotionTill {
         Tariff copy() {
             Tariff copy = new Tariff();
             System.arraycopy(cents, 0, copy.cents, 0, ARTICLES);
-            System.arraycopy(taxClasses, 0, copy.taxClasses, 0, ARTICLES);
             for (int i = 0; i < OFFERS; i++) {
                 offers[i].copyTo(copy.offers[i]);
             }
