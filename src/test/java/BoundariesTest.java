@@ -86,8 +86,14 @@ public final class BoundariesTest {
             try {
                 return String.valueOf(call.on(till));
             } catch (RuntimeException e) {
-                return e.getClass().getName();
+                return e.getClass().getName() + thrower(e);
             }
+        }
+
+        /** Nothing but the class itself may throw: neither the machine nor the library. */
+        private static String thrower(RuntimeException e) {
+            String name = e.getStackTrace()[0].getClassName();
+            return name.startsWith("PromotionTill") ? "" : " thrown by " + name;
         }
 
         int number(Call call) {
@@ -1248,6 +1254,8 @@ public final class BoundariesTest {
         due(1000 - 150 - 280, two, totalOf(0));
         plan(calls(running(0, 0, 2, 50, 1, 0), running(1, 0, 2, 50, 1, 0), scans(0, 0, 0, 0)), 1,
                 0, 0, 1, 1);
+        plan(calls(running(4, 0, 2, 50, 1, 0), running(5, 0, 2, 50, 1, 0), times(6, scanOf(0))), 1,
+                NONE, NONE, 4, 4, 5, 5);
         says("MOST: in a basket, so the next one begins again");
         Call[] again = calls(running(0, 0, 2, 50, 1, 0), scans(0, 0), finishOf(50));
         due(50, calls(again, scans(0, 0)), totalOf(0));

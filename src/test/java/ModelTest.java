@@ -11,19 +11,24 @@ import java.util.Random;
 public final class ModelTest {
     private static final int RUNS = 1500;
     private static final int CALLS = 120;
+    /** The document says nothing of an object behind its 512th call. */
+    private static final int MOST_CALLS = 512;
+    private static final int LOOK_AT_ALL = 14;
+    private static final int CALLS_OF_LOOK = 43;
     private static int wrong = 0;
     private static long calls = 0;
     private static final int[] answers = new int[15];
     private static final int[] refusals = new int[15];
     private static final int[] plansWithUses = new int[6];
+    private static int fullOfReceipts = 0;
 
     public static void main(String[] args) {
         for (int seed = 0; seed < RUNS && wrong == 0; seed++) {
             compareRun(seed);
         }
         // A run that never answers, or never refuses, would not test much.
-        for (int call = 0; call < 15; call++) {
-            if (answers[call] < 100 || refusals[call] < 10 && call != 14) {
+        for (int call = 0; call <= LOOK_AT_ALL; call++) {
+            if (answers[call] < 100 || refusals[call] < 10 && call != LOOK_AT_ALL) {
                 wrong++;
                 System.out.println("call " + call + " answered " + answers[call] + " times, refused "
                         + refusals[call] + " times");
@@ -34,6 +39,10 @@ public final class ModelTest {
                 wrong++;
                 System.out.println("few plans with " + uses + " uses: " + plansWithUses[uses]);
             }
+        }
+        if (fullOfReceipts < 20) {
+            wrong++;
+            System.out.println("few runs with twelve receipts: " + fullOfReceipts);
         }
         System.out.println(wrong == 0 ? calls + " calls are as the model's" : "not as the model");
         if (wrong != 0) {
@@ -48,8 +57,16 @@ public final class ModelTest {
         StringBuilder told = new StringBuilder();
         int articles = 1 + random.nextInt(12);
         int prices = random.nextInt(3);
-        for (int k = 0; k < CALLS; k++) {
-            int[] call = randomCall(random, articles, prices, k);
+        boolean isLong = seed % 20 == 0;
+        int used = 0;
+        for (int k = 0; k < CALLS || isLong; k++) {
+            boolean hurried = isLong && k >= 45 && random.nextInt(3) > 0;
+            int[] call = hurried ? hurriedCall(random, articles, prices, model.units.isEmpty())
+                    : randomCall(random, articles, prices, k);
+            used += call[0] == LOOK_AT_ALL ? CALLS_OF_LOOK : 1;
+            if (used > MOST_CALLS) {
+                break;
+            }
             String want = answer(() -> model.call(call));
             String got = answer(() -> call(till, call));
             told.append(java.util.Arrays.toString(call)).append(" -> ").append(got).append('\n');
@@ -65,6 +82,26 @@ public final class ModelTest {
                 return;
             }
         }
+        fullOfReceipts += model.bills.size() == 12 ? 1 : 0;
+    }
+
+    /** Makes for many receipts with different terms. */
+    private static int[] hurriedCall(Random r, int articles, int prices, boolean empty) {
+        if (empty && r.nextInt(3) > 0) {
+            return settingCall(r, articles, prices);
+        }
+        int dice = r.nextInt(10);
+        if (dice < 5) {
+            return new int[] {4, r.nextInt(articles)};
+        }
+        if (dice < 7) {
+            return new int[] {10, 2000000};
+        }
+        if (dice < 8) {
+            return new int[] {13, r.nextInt(13), r.nextInt(10), r.nextInt(4)};
+        }
+        return dice < 9 ? new int[] {12, r.nextInt(13), r.nextInt(4)}
+                : new int[] {11, r.nextInt(13), r.nextInt(5)};
     }
 
     private interface Answer {
@@ -175,7 +212,7 @@ public final class ModelTest {
         if (dice < 90) {
             return new int[] {13, pick(r, 3), pick(r, 8), pick(r, 4)};
         }
-        return new int[] {14};
+        return new int[] {LOOK_AT_ALL};
     }
 
     private static int[] settingCall(Random r, int articles, int prices) {
