@@ -7,6 +7,7 @@ public final class LoadTest {
     public static void main(String[] args) {
         long start = System.nanoTime();
         mostUses();
+        lastUse();
         fullRoom();
         fullReceipts();
         long seconds = (System.nanoTime() - start) / 1000000000L;
@@ -54,6 +55,29 @@ public final class LoadTest {
             due("try", till.tryOffer(k % 5), 790);
         }
         due("try the best", till.tryOffer(5), 792);
+    }
+
+    /** The very last of the 1260 uses, articles 6 to 9 by offer 5, is in the plan. */
+    private static void lastUse() {
+        PromotionTill till = new PromotionTill();
+        for (int article = 2; article < 10; article++) {
+            till.article(article, 200, 0);
+        }
+        for (int offer = 0; offer < 6; offer++) {
+            till.offer(offer, offer < 5 ? 1 : 0, 4, 0, 0);
+            till.run(offer, true);
+            for (int article = 0; article < 10; article++) {
+                till.member(offer, 0, article, true);
+            }
+        }
+        for (int article = 0; article < 10; article++) {
+            till.scan(article);
+        }
+        due("the two cheap ones", till.total(0), 200);
+        for (int i = 0; i < 10; i++) {
+            due("use of unit " + i, till.unit(i, 2), i < 2 ? -1 : i < 6 ? 0 : 1);
+            due("offer of unit " + i, till.unit(i, 1), i < 2 ? -1 : 5);
+        }
     }
 
     /** Room 3000: three offers of most 4, and articles with 1, 1, 1 and 2 units. */
