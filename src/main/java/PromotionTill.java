@@ -262,7 +262,7 @@ public final class PromotionTill {
         return receipts.get(n);
     }
 
-    /** The tariff can't change under a basket with units, so only scan, unscan and finish undo it. */
+    /** The tariff can't change under a basket with units: only scan, unscan and finish undo it. */
     private void findPlan() {
         if (!planned) {
             plan.leaveAllAlone(tariff, basket);
@@ -493,7 +493,7 @@ public final class PromotionTill {
             return NONE;
         }
 
-        /** The units of the newest use still have their prices in pays: the saving goes off them. */
+        /** The units of the newest use still have their prices in pays: the saving goes off. */
         void endUse(Basket basket, int saving) {
             int prices = 0;
             for (int i = 0; i < basket.size; i++) {
