@@ -4,7 +4,8 @@ import java.util.List;
 
 /**
  * Every sentence of the document that names a boundary case (too small, too large, empty, full, a
- * refused call) has a test of its own here, under its own words, on objects of its own.
+ * refused call) has a test of its own here, on objects of its own. A heading has the sentence's
+ * words, or says what follows from it; the sentences on new offers have one for each offer.
  * After each refused call the till is asked and used further beside a twin that did not get the
  * call, as a call that throws changes nothing.
  */
@@ -56,7 +57,7 @@ public final class BoundariesTest {
         calls();
         says("the end");
         System.out.println(wrong == 0
-                ? (sentences - 1) + " sentences hold, by " + rows + " runs"
+                ? (sentences - 1) + " headings hold, by " + rows + " runs"
                 : wrong + " answers are not as due");
         if (wrong != 0) {
             System.exit(1);
